@@ -733,7 +733,7 @@ public final class HouseClauses {
         return hash;
     }
 
-    /** Double.doubleToLongBits of 0 to 1, by hand, for LANGUAGE.md does not list it. */
+    /** The bits of a double from 0 to 1, by hand, for LANGUAGE.md lists no call that tells them. */
     private static long bitsOfShare(double share) {
         if (share <= 0.0) {
             return 0L;
@@ -747,7 +747,7 @@ public final class HouseClauses {
         return (exponent << 52) + (long) ((part - 1.0) * 4503599627370496.0);
     }
 
-    /** Float.floatToIntBits of 0 or of 1 and more, by hand, for LANGUAGE.md does not list it. */
+    /** The bits of a float that is 0, or 1 and more, by hand for the same reason. */
     private static int bitsOfMean(float mean) {
         if (mean <= 0.0f) {
             return 0;
@@ -1072,8 +1072,10 @@ public final class HouseClauses {
         }
 
         private void add(int let, int empty) {
-            boolean isNew = let >= 0 && let < seen.length && (seen[let] >>> empty & 1L) == 0;
-            if (isNew && count >= 0 && count < made.length) {
+            if (let < 0 || let >= seen.length || count < 0 || count >= made.length) {
+                return;
+            }
+            if ((seen[let] >>> empty & 1L) == 0) {
                 seen[let] |= 1L << empty;
                 made[count] = let << ROOMS | empty;
                 count++;
