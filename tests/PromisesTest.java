@@ -803,58 +803,22 @@ public final class PromisesTest {
         due(54, x.peaceShare(), 0.0);
     }
 
-    /** The digest, from the answers of the face alone. */
-    private static long hashed(HouseClauses x, int saved, boolean kept, String buffer) {
-        long h = 31L * 4211L + x.rules();
-        for (int k = 0; k < x.rules(); k++) {
-            h = 31 * h + x.shouldBeLet(k);
-            h = 31 * h + x.shouldBeEmpty(k);
-            h = 31 * h + x.fine(k);
-            h = 31 * h + (x.isStrict(k) ? 1 : 0);
-            h = 31 * h + x.waivedFor(k);
-            h = 31 * h + x.finesOf(k);
-            h = 31 * h + (x.follows(k) ? 1 : 0);
-            h = 31 * h + (x.followsBySplitting(k) ? 1 : 0);
-        }
-        for (long v : new long[] {x.way(), x.day(), x.inForce(), x.broken()}) {
-            h = 31 * h + v;
-        }
-        for (int r = 0; r < 6; r++) {
-            h = 31 * h + x.refusedBy(r);
-            h = 31 * h + x.forced(r);
-        }
-        int set = x.inForce();
-        long[] rest = {x.fines(), x.finesByRules(), x.canStand(set) ? 1 : 0, x.canStandBySplitting(set) ? 1 : 0,
-            x.canStandByJoining(set) ? 1 : 0, x.joined(set), x.ways(), x.waysBySplitting(), x.firstWay(),
-            x.smallestClash(), x.smallestClashByWays(), x.narrowedClash(), x.narrowClashes(), x.fewestWaivers(),
-            x.fewestWaiversBySets(), x.turnsToPeace(), x.turnsToPeaceByGoing(), x.nightNow(), x.cheapestWay(),
-            x.cheapestNight(), x.bestTurn(), x.finesIn(9), saved, Double.doubleToLongBits(x.peaceShare()),
-            Float.floatToIntBits(x.meanFine()), kept ? 1 : 0, buffer.length()};
-        for (long v : rest) {
-            h = 31 * h + v;
-        }
-        for (char c : buffer.toCharArray()) {
-            h = 31 * h + c;
-        }
-        return h;
-    }
-
     private static void digest() {
         HouseClauses x = new HouseClauses();
-        due(56, x.digest(), hashed(x, 0, false, ""));
+        due(56, x.digest(), Hash.due(x, 0, false, ""));
         x.make(3, 1, 2);
-        due(56, x.digest(), hashed(x, 1, false, ""));
+        due(56, x.digest(), Hash.due(x, 1, false, ""));
         x.make(7, 4, 0);
         x.setStrict(1, true);
         x.waive(0, 4);
         x.come(3);
         typed(x, "r1~");
-        due(56, x.digest(), hashed(x, 5, false, "r1~"));
+        due(56, x.digest(), Hash.due(x, 5, false, "r1~"));
         x.pass(2);
         x.keep();
         x.make(1, 0, 4);
-        due(56, x.digest(), hashed(x, 6, true, "r1~"));
-        due(56, x.digest(), hashed(x, 6, true, "r1~"));
+        due(56, x.digest(), Hash.due(x, 6, true, "r1~"));
+        due(56, x.digest(), Hash.due(x, 6, true, "r1~"));
         bitsOfShares();
     }
 
@@ -871,7 +835,7 @@ public final class PromisesTest {
                     x.make((sum + k) / many, 1 << k % 6 | 1 << (k + sum) % 6, 0);
                     saved++;
                 }
-                due(56, x.digest(), hashed(x, Math.min(6, saved), false, ""));
+                due(56, x.digest(), Hash.due(x, Math.min(6, saved), false, ""));
             }
         }
     }

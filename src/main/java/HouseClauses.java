@@ -1098,7 +1098,7 @@ public final class HouseClauses {
             for (int k = 0; k < house.count; k++) {
                 int bit = 1 << k;
                 for (int rest = 0; rest < bit && bit + rest < open.length; rest++) {
-                    open[bit + rest] = open[rest] & house.at(k).heldWays;
+                    open[bit + rest] = of(rest) & house.at(k).heldWays;
                 }
             }
         }
