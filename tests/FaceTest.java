@@ -82,6 +82,43 @@ public final class FaceTest {
         }
     }
 
+    /** The bounds of LANGUAGE.md on methods, fields and classes that the machine can tell. */
+    private static void bounds() {
+        List<Class<?>> classes = new ArrayList<>(List.of(HouseClauses.class.getDeclaredClasses()));
+        classes.add(HouseClauses.class);
+        due("some twelve classes at most", classes.size() <= 12, true);
+        for (Class<?> c : classes) {
+            int fields = 0;
+            for (Field f : c.getDeclaredFields()) {
+                boolean isStatic = Modifier.isStatic(f.getModifiers());
+                fields += isStatic ? 0 : 1;
+                due(f + " is final if it is static", !isStatic || Modifier.isFinal(f.getModifiers()), true);
+            }
+            due(c.getName() + " has some twenty fields at most", fields <= 20, true);
+            for (Method m : c.getDeclaredMethods()) {
+                due(m + " takes at most seven parameters", m.getParameterCount() <= 7, true);
+            }
+        }
+    }
+
+    /** A method ends at the first closing brace that stands as far in as its head. */
+    private static void lengths() throws IOException {
+        List<String> lines = Files.readAllLines(Path.of("src/main/java/HouseClauses.java"));
+        int heads = 0;
+        for (int i = 0; i < lines.size(); i++) {
+            if (lines.get(i).matches("(    |        )\\w[^=;]*\\) (throws [^=;]*)?\\{")) {
+                heads++;
+                String end = lines.get(i).replaceAll("\\S.*", "") + "}";
+                int last = i;
+                while (last < lines.size() && !lines.get(last).equals(end)) {
+                    last++;
+                }
+                due(lines.get(i).trim() + " has some sixty lines at most", last - i < 60, true);
+            }
+        }
+        due("the methods", heads > 55, true);
+    }
+
     private static void source() throws IOException {
         String text = Files.readString(Path.of("src/main/java/HouseClauses.java"));
         String[] barred = {"->", "::", "finally", "synchronized", "assert", "Exact(", "catch", "System.", "static {",
@@ -101,6 +138,8 @@ public final class FaceTest {
         due("the face", faceOfClass(), faceOfDocument());
         due("the calls", faceOfDocument().size() > 50, true);
         privateNames();
+        bounds();
+        lengths();
         source();
         System.out.println(wrong == 0 ? "the face is as due" : wrong + " things of the face are not as due");
         if (wrong != 0) {
